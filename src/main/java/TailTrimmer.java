@@ -365,21 +365,10 @@ public final class TailTrimmer {
                 case IF:
                     return 3;
                 case CALL:
-                    return has(nodeValue) ? parameters[nodeValue] : 0;
+                    return nodeValue >= 0 && nodeValue < count ? parameters[nodeValue] : 0;
                 default:
                     return 2;
             }
-        }
-
-        /** The place behind the expression that begins there. */
-        int behind(int node) {
-            int wanted = 1;
-            int i = node;
-            while (i < kind.length && wanted > 0) {
-                wanted += kids(kind[i], value[i]) - 1;
-                i++;
-            }
-            return i;
         }
 
         int countCalls(int f) {
@@ -418,6 +407,7 @@ public final class TailTrimmer {
             0x646566L, 0x6c6574L, 0x696eL, 0x6966L, 0x7468656eL, 0x656c7365L, 0x707574L};
         static final int NAME_SIGNS = 8;
         static final int NUMBER_DIGITS = 10;
+        static final long MOST_NUMBER = 2147483647L;
 
         private byte[] text = null;
         private int length = 0;
@@ -441,8 +431,20 @@ public final class TailTrimmer {
 
         int peek() {
             if (fault == 0 && !held) {
-                scan();
                 held = true;
+                while (at < length && isBlank(text[at])) {
+                    at++;
+                }
+                place = at;
+                if (at >= length) {
+                    kind = END;
+                } else if (isLetter(text[at])) {
+                    scanName();
+                } else if (isDigit(text[at])) {
+                    scanNumber();
+                } else {
+                    scanSign();
+                }
             }
             return fault == 0 ? kind : STOPPED;
         }
@@ -458,37 +460,22 @@ public final class TailTrimmer {
         /** Takes a token that must stand here. */
         boolean need(int wanted) {
             if (peek() != wanted) {
-                failHere(2);
+                failAt(2, place);
                 return false;
             }
             take();
             return true;
         }
 
-        void failHere(int code) {
-            failAt(code, place);
+        void failHere(int number) {
+            failAt(number, place);
         }
 
-        void failAt(int code, int where) {
+        /** The first fault counts. */
+        void failAt(int number, int where) {
             if (fault == 0) {
-                fault = code;
+                fault = number;
                 faultPlace = where;
-            }
-        }
-
-        private void scan() {
-            while (at < length && isBlank(text[at])) {
-                at++;
-            }
-            place = at;
-            if (at >= length) {
-                kind = END;
-            } else if (isLetter(text[at])) {
-                scanName();
-            } else if (isDigit(text[at])) {
-                scanNumber();
-            } else {
-                scanSign();
             }
         }
 
@@ -499,7 +486,7 @@ public final class TailTrimmer {
                 at++;
             }
             if (at - place > NAME_SIGNS) {
-                failHere(1);
+                failAt(1, place);
             }
             kind = NAME;
             for (int i = 0; i < WORDS.length; i++) {
@@ -517,8 +504,8 @@ public final class TailTrimmer {
                 }
                 at++;
             }
-            if (at - place > NUMBER_DIGITS || sum > Integer.MAX_VALUE) {
-                failHere(1);
+            if (at - place > NUMBER_DIGITS || sum > MOST_NUMBER) {
+                failAt(1, place);
             }
             kind = DIGITS;
             number = (int) sum;
@@ -527,7 +514,7 @@ public final class TailTrimmer {
         private void scanSign() {
             int sign = text[at];
             if (sign < 0 || SIGNS.indexOf((char) sign) < 0) {
-                failHere(1);
+                failAt(1, place);
                 return;
             }
             kind = sign;
@@ -637,31 +624,30 @@ public final class TailTrimmer {
             if (!tokens.need('(')) {
                 return false;
             }
-            if (tokens.isAt(')')) {
-                return tokens.need(')');
-            }
-            boolean more = readParameter();
-            for (int i = 0; i < MOST_PARAMETERS && more && tokens.isAt(','); i++) {
-                tokens.take();
-                more = readParameter();
-            }
-            return more && tokens.need(')');
-        }
-
-        private boolean readParameter() {
-            if (tokens.isAt(Tokens.NAME)) {
-                if (findVariable(tokens.name) != NONE) {
-                    tokens.failHere(3);
-                } else if (variables >= MOST_PARAMETERS) {
-                    tokens.failHere(5);
+            boolean more = !tokens.isAt(')');
+            for (int i = 0; i <= MOST_PARAMETERS && more; i++) {
+                if (tokens.isAt(Tokens.NAME)) {
+                    checkParameterName();
+                }
+                if (!tokens.need(Tokens.NAME)) {
+                    return false;
+                }
+                see(tokens.name, variables);
+                variables++;
+                more = tokens.isAt(',');
+                if (more) {
+                    tokens.take();
                 }
             }
-            if (!tokens.need(Tokens.NAME)) {
-                return false;
+            return tokens.need(')');
+        }
+
+        private void checkParameterName() {
+            if (findVariable(tokens.name) != NONE) {
+                tokens.failHere(3);
+            } else if (variables >= MOST_PARAMETERS) {
+                tokens.failHere(5);
             }
-            see(tokens.name, variables);
-            variables++;
-            return true;
         }
 
         private void see(long name, int variable) {
@@ -930,80 +916,102 @@ public final class TailTrimmer {
     }
 
     /**
-     * A walk over an expression that tells when a node is met, when one of its operands is behind it, and
+     * A walk over an expression that stops when a node is met, when one of its operands is behind it, and
      * when all are. The open nodes are kept on a stack of its own: expressions are deeper than calls may go.
      */
-    private abstract static class Walk {
+    private static final class Walk {
+        static final int BEGIN = 0;
+        static final int ENTER = 1;
+        static final int BEHIND_KID = 2;
+        static final int LEAVE = 3;
+        /** Each node is met, left, and is behind for the one that has it. */
+        static final int MOST_EVENTS = 3 * MOST_NODES;
+
+        /** By level: the open nodes. Kind and value are kept, because folding writes over open nodes. */
         final int[] nodes = new int[MOST_NODES];
         final int[] kinds = new int[MOST_NODES];
         final int[] values = new int[MOST_NODES];
+        /** By level: how many operands are behind, which is also the number of the one that comes. */
         final int[] done = new int[MOST_NODES];
-        Program program = null;
-        int next = 0;
+        private final int[] wants = new int[MOST_NODES];
+        int event = BEGIN;
+        int level = 0;
+        /** At BEHIND_KID: which operand it was. */
+        int kid = 0;
+        private Program program = null;
+        private int next = 0;
         private int depth = 0;
 
-        abstract void enter(int level);
-
-        abstract void behindKid(int level, int kid);
-
-        abstract void leave(int level);
-
-        final void walk(Program p, int f) {
+        void begin(Program p, int f) {
             program = p;
-            depth = 0;
             next = p.start[f];
-            int end = next + p.size[f];
-            for (int n = 0; n < MOST_NODES && next < end && depth < MOST_NODES; n++) {
-                open(next);
-                next++;
-                enter(depth - 1);
-                closeFull();
-            }
+            depth = 0;
+            event = BEGIN;
         }
 
-        /** Kind and value are kept, because a walk that folds writes over nodes that are still open. */
-        private void open(int node) {
-            nodes[depth] = node;
-            kinds[depth] = program.kind[node];
-            values[depth] = program.value[node];
-            done[depth] = 0;
-            depth++;
-        }
-
-        private void closeFull() {
-            for (int n = 0; n < MOST_NODES && depth > 0 && isFull(depth - 1); n++) {
-                leave(depth - 1);
+        /** Goes on to the next event; false when all is behind. */
+        boolean advance() {
+            if (event == LEAVE) {
                 depth--;
-                if (depth > 0) {
-                    behindKid(depth - 1, done[depth - 1]);
-                    done[depth - 1]++;
+                if (depth <= 0) {
+                    return false;
                 }
+                event = BEHIND_KID;
+                level = depth - 1;
+                kid = done[level];
+                done[level]++;
+                return true;
             }
+            if (depth > 0 && done[depth - 1] >= wants[depth - 1]) {
+                event = LEAVE;
+                level = depth - 1;
+                return true;
+            }
+            return enterNext();
         }
 
-        private boolean isFull(int level) {
-            return done[level] >= program.kids(kinds[level], values[level]);
+        private boolean enterNext() {
+            if (depth >= MOST_NODES || next >= program.kind.length) {
+                return false;
+            }
+            event = ENTER;
+            level = depth;
+            nodes[level] = next;
+            kinds[level] = program.kind[next];
+            values[level] = program.value[next];
+            wants[level] = program.kids(kinds[level], values[level]);
+            done[level] = 0;
+            depth++;
+            next++;
+            return true;
+        }
+
+        /** The operand that would come next is passed by. */
+        void skipKid() {
+            int wanted = 1;
+            while (next < program.kind.length && wanted > 0) {
+                wanted += program.kids(program.kind[next], program.value[next]) - 1;
+                next++;
+            }
+            done[level]++;
         }
     }
 
     /** Which function calls which, in circles or not, and the order in which they are trimmed. */
-    private static final class Graph extends Walk {
+    private static final class Graph {
+        private final Walk walk = new Walk();
         final int[] inOrder = new int[MOST_FUNCTIONS];
         private final int[] called = new int[MOST_FUNCTIONS];
         private final int[] reach = new int[MOST_FUNCTIONS];
         /** Row f: whom f calls, each once, as they are met. */
         private final int[][] callee = new int[MOST_FUNCTIONS][MOST_FUNCTIONS];
         private final int[] callees = new int[MOST_FUNCTIONS];
-        private int caller = 0;
         private int looked = 0;
         private int ordered = 0;
 
         void draw(Program p) {
             for (int f = 0; f < p.count; f++) {
-                caller = f;
-                called[f] = 0;
-                callees[f] = 0;
-                walk(p, f);
+                gather(p, f);
                 reach[f] = called[f];
             }
             closeOver(reach, p.count);
@@ -1022,21 +1030,22 @@ public final class TailTrimmer {
             return hasBit(reach[f], g) && hasBit(reach[g], f);
         }
 
-        @Override
-        void enter(int level) {
+        private void gather(Program p, int f) {
+            called[f] = 0;
+            callees[f] = 0;
+            walk.begin(p, f);
+            for (int n = 0; n < Walk.MOST_EVENTS && walk.advance(); n++) {
+                if (walk.event == Walk.LEAVE && walk.kinds[walk.level] == CALL) {
+                    addCallee(f, walk.values[walk.level]);
+                }
+            }
         }
 
-        @Override
-        void behindKid(int level, int kid) {
-        }
-
-        @Override
-        void leave(int level) {
-            int g = values[level];
-            if (kinds[level] == CALL && !hasBit(called[caller], g) && callees[caller] < MOST_FUNCTIONS) {
-                called[caller] |= 1 << g;
-                callee[caller][callees[caller]] = g;
-                callees[caller]++;
+        private void addCallee(int f, int g) {
+            if (!hasBit(called[f], g) && callees[f] < MOST_FUNCTIONS) {
+                called[f] |= 1 << g;
+                callee[f][callees[f]] = g;
+                callees[f]++;
             }
         }
 
@@ -1058,84 +1067,81 @@ public final class TailTrimmer {
      * Copies expressions and puts small functions where they are called. A function is walked twice: whether
      * a call is replaced is known only behind its arguments, but its first let stands before them.
      */
-    private static final class Inliner extends Walk {
+    private static final class Inliner {
+        private final Walk walk = new Walk();
         /** By a node's place in its function: the number that g's variable 0 gets, or NONE. */
         private final int[] base = new int[MOST_NODES];
+        private Program source = null;
         private Program target = null;
         private Graph graph = null;
         private int limit = 0;
-        private int caller = 0;
         private int size = 0;
         private int variables = 0;
         private int replaced = 0;
-        private boolean choosing = false;
         private int to = 0;
 
         /** How many calls were replaced. */
         int inlineAll(Program from, Program into, Graph drawn, int sizeLimit) {
+            source = from;
             target = into;
             graph = drawn;
             limit = sizeLimit;
             into.count = from.count;
             int total = 0;
             for (int k = 0; k < from.count; k++) {
-                inlineIn(from, drawn.inOrder[k]);
+                inlineIn(drawn.inOrder[k]);
                 total += replaced;
             }
             return total;
         }
 
-        private void inlineIn(Program from, int f) {
-            caller = f;
-            size = from.size[f];
-            variables = from.variables[f];
+        private void inlineIn(int f) {
+            size = source.size[f];
+            variables = source.variables[f];
             replaced = 0;
-            choosing = true;
-            walk(from, f);
-            choosing = false;
+            chooseCalls(f);
             target.start[f] = f * MOST_NODES;
             to = target.start[f];
-            walk(from, f);
-            target.name[f] = from.name[f];
-            target.parameters[f] = from.parameters[f];
+            copyWithChosen(f);
+            target.name[f] = source.name[f];
+            target.parameters[f] = source.parameters[f];
             target.variables[f] = variables;
             target.size[f] = to - target.start[f];
             target.replaced[f] = replaced;
         }
 
-        private int offset(int level) {
-            return nodes[level] - program.start[caller];
-        }
-
-        private boolean isReplaced(int level) {
-            return kinds[level] == CALL && base[offset(level)] != NONE;
-        }
-
-        @Override
-        void enter(int level) {
-            if (choosing) {
-                return;
-            }
-            if (!isReplaced(level)) {
-                emit(kinds[level], values[level]);
-            } else if (program.kids(CALL, values[level]) > 0) {
-                emit(LET, base[offset(level)]);
+        private void chooseCalls(int f) {
+            walk.begin(source, f);
+            for (int n = 0; n < Walk.MOST_EVENTS && walk.advance(); n++) {
+                if (walk.event == Walk.LEAVE) {
+                    int level = walk.level;
+                    boolean call = walk.kinds[level] == CALL;
+                    base[walk.nodes[level] - source.start[f]] = call ? choose(walk.values[level]) : NONE;
+                }
             }
         }
 
-        @Override
-        void behindKid(int level, int kid) {
-            if (!choosing && isReplaced(level) && kid + 1 < program.kids(CALL, values[level])) {
-                emit(LET, base[offset(level)] + kid + 1);
+        private void copyWithChosen(int f) {
+            walk.begin(source, f);
+            for (int n = 0; n < Walk.MOST_EVENTS && walk.advance(); n++) {
+                int kind = walk.kinds[walk.level];
+                int value = walk.values[walk.level];
+                int first = base[walk.nodes[walk.level] - source.start[f]];
+                if (first != NONE) {
+                    replace(value, first);
+                } else if (walk.event == Walk.ENTER) {
+                    emit(kind, value);
+                }
             }
         }
 
-        @Override
-        void leave(int level) {
-            if (choosing && kinds[level] == CALL) {
-                base[offset(level)] = choose(values[level]);
-            } else if (!choosing && isReplaced(level)) {
-                emitBody(values[level], base[offset(level)]);
+        /** At each event of a call of g that gives way: a let before each argument, g behind all. */
+        private void replace(int g, int first) {
+            int parameter = walk.event == Walk.BEHIND_KID ? walk.kid + 1 : 0;
+            if (walk.event == Walk.LEAVE) {
+                emitBody(g, first);
+            } else if (parameter < source.parameters[g]) {
+                emit(LET, first + parameter);
             }
         }
 
@@ -1143,7 +1149,7 @@ public final class TailTrimmer {
             if (graph.inOneCircle(g, g) || target.size[g] > limit) {
                 return NONE;
             }
-            int newSize = size - 1 + program.parameters[g] + target.size[g];
+            int newSize = size - 1 + source.parameters[g] + target.size[g];
             int newVariables = variables + target.variables[g];
             if (newSize > MOST_NODES || newVariables > MOST_VARIABLES) {
                 return NONE;
@@ -1176,7 +1182,8 @@ public final class TailTrimmer {
      * Folds an expression in its own place: what comes out is never longer than what was read, so that no
      * node is written over before it is met.
      */
-    private static final class Folder extends Walk {
+    private static final class Folder {
+        private final Walk walk = new Walk();
         /** By level: where the node's outcome begins, and where its second operand's does. */
         private final int[] first = new int[MOST_NODES];
         private final int[] second = new int[MOST_NODES];
@@ -1184,34 +1191,47 @@ public final class TailTrimmer {
         private final boolean[] gone = new boolean[MOST_NODES];
         private final boolean[] known = new boolean[MOST_VARIABLES];
         private final int[] number = new int[MOST_VARIABLES];
+        private Program program = null;
         private int to = 0;
 
         void foldAll(Program p) {
+            program = p;
             for (int f = 0; f < p.count; f++) {
-                for (int i = 0; i < MOST_VARIABLES; i++) {
-                    known[i] = false;
-                }
-                to = p.start[f];
-                walk(p, f);
-                p.size[f] = to - p.start[f];
+                foldIn(f);
             }
         }
 
-        @Override
-        void enter(int level) {
+        private void foldIn(int f) {
+            for (int i = 0; i < MOST_VARIABLES; i++) {
+                known[i] = false;
+            }
+            to = program.start[f];
+            walk.begin(program, f);
+            for (int n = 0; n < Walk.MOST_EVENTS && walk.advance(); n++) {
+                if (walk.event == Walk.ENTER) {
+                    enter(walk.level);
+                } else if (walk.event == Walk.BEHIND_KID) {
+                    behindKid(walk.level, walk.kid);
+                } else {
+                    leave(walk.level);
+                }
+            }
+            program.size[f] = to - program.start[f];
+        }
+
+        private void enter(int level) {
             first[level] = to;
             gone[level] = false;
-            int value = values[level];
-            if (kinds[level] == VARIABLE && known[value]) {
+            int value = walk.values[level];
+            if (walk.kinds[level] == VARIABLE && known[value]) {
                 emit(NUMBER, number[value]);
             } else {
-                emit(kinds[level], value);
+                emit(walk.kinds[level], value);
             }
         }
 
-        @Override
-        void behindKid(int level, int kid) {
-            int kind = kinds[level];
+        private void behindKid(int level, int kid) {
+            int kind = walk.kinds[level];
             if (kid == 0 && kind == SEQUENCE && isCalm(first[level] + 1, to)) {
                 giveWay(level);
             } else if (kid == 0 && kind == LET) {
@@ -1220,13 +1240,12 @@ public final class TailTrimmer {
             } else if (kid == 0 && kind == IF && isNumber(first[level] + 1)) {
                 chooseBranch(level);
             } else if (kid == 1 && kind == IF && gone[level]) {
-                skipKid(level);
+                walk.skipKid();
             }
         }
 
-        @Override
-        void leave(int level) {
-            int kind = kinds[level];
+        private void leave(int level) {
+            int kind = walk.kinds[level];
             if (kind >= ADD && kind <= EQUAL) {
                 foldTwo(level);
             } else if (kind == NEGATE && isNumber(first[level] + 1)) {
@@ -1245,8 +1264,9 @@ public final class TailTrimmer {
 
         private void bind(int level) {
             if (isNumber(first[level] + 1)) {
-                known[values[level]] = true;
-                number[values[level]] = program.value[first[level] + 1];
+                int variable = walk.values[level];
+                known[variable] = true;
+                number[variable] = program.value[first[level] + 1];
                 giveWay(level);
             }
         }
@@ -1255,14 +1275,8 @@ public final class TailTrimmer {
             boolean takesThen = program.value[first[level] + 1] != 0;
             giveWay(level);
             if (!takesThen) {
-                skipKid(level);
+                walk.skipKid();
             }
-        }
-
-        /** The operand that would come next is passed by. */
-        private void skipKid(int level) {
-            next = program.behind(next);
-            done[level]++;
         }
 
         private void foldTwo(int level) {
@@ -1271,17 +1285,17 @@ public final class TailTrimmer {
             if (to != b + 1 || program.kind[a] != NUMBER || program.kind[b] != NUMBER) {
                 return;
             }
-            if (dividesByZero(kinds[level], program.value[b])) {
+            if (dividesByZero(walk.kinds[level], program.value[b])) {
                 return;
             }
-            int outcome = operate(kinds[level], program.value[a], program.value[b]);
+            int outcome = operate(walk.kinds[level], program.value[a], program.value[b]);
             to = first[level];
             emit(NUMBER, outcome);
         }
 
         private void dropUnused(int level) {
             int body = second[level];
-            if (standsIn(values[level], body) || !isCalm(first[level] + 1, body)) {
+            if (standsIn(walk.values[level], body) || !isCalm(first[level] + 1, body)) {
                 return;
             }
             System.arraycopy(program.kind, body, program.kind, first[level], to - body);
@@ -1323,7 +1337,8 @@ public final class TailTrimmer {
     }
 
     /** Makes the code of expressions, and says how many slots and temps it takes. */
-    private static final class Coder extends Walk {
+    private static final class Coder {
+        private final Walk walk = new Walk();
         /** By level: whether the node is at an END, and how many variables are around it. */
         private final boolean[] atEnd = new boolean[MOST_NODES];
         private final int[] around = new int[MOST_NODES];
@@ -1331,6 +1346,7 @@ public final class TailTrimmer {
         private final int[] hole = new int[MOST_NODES];
         private final int[] below = new int[MOST_NODES];
         private final int[] slotOf = new int[MOST_VARIABLES];
+        private Program program = null;
         private boolean tails = false;
         private int caller = 0;
         private int used = 0;
@@ -1339,49 +1355,61 @@ public final class TailTrimmer {
         private int slots = 0;
 
         void encode(Program p, boolean withTails) {
+            program = p;
             tails = withTails;
             used = 0;
             for (int f = 0; f < p.count; f++) {
-                caller = f;
-                height = 0;
-                mostHeight = 0;
-                slots = p.parameters[f];
-                for (int i = 0; i < p.parameters[f]; i++) {
-                    slotOf[i] = i;
-                }
-                p.codeStart[f] = used;
-                walk(p, f);
-                p.codeSize[f] = used - p.codeStart[f];
-                p.slots[f] = slots;
-                p.temps[f] = mostHeight;
+                encodeIn(f);
             }
         }
 
-        @Override
-        void enter(int level) {
+        private void encodeIn(int f) {
+            caller = f;
+            height = 0;
+            mostHeight = 0;
+            slots = program.parameters[f];
+            for (int i = 0; i < program.parameters[f]; i++) {
+                slotOf[i] = i;
+            }
+            program.codeStart[f] = used;
+            walk.begin(program, f);
+            for (int n = 0; n < Walk.MOST_EVENTS && walk.advance(); n++) {
+                if (walk.event == Walk.ENTER) {
+                    enter(walk.level);
+                } else if (walk.event == Walk.BEHIND_KID) {
+                    behindKid(walk.level, walk.kid);
+                } else {
+                    leave(walk.level);
+                }
+            }
+            program.codeSize[f] = used - program.codeStart[f];
+            program.slots[f] = slots;
+            program.temps[f] = mostHeight;
+        }
+
+        private void enter(int level) {
             if (level == 0) {
                 atEnd[0] = true;
                 around[0] = program.parameters[caller];
             } else {
-                int parent = kinds[level - 1];
-                int kid = done[level - 1];
+                int parent = walk.kinds[level - 1];
+                int kid = walk.done[level - 1];
                 boolean last = parent == IF ? kid > 0 : (parent == LET || parent == SEQUENCE) && kid == 1;
                 atEnd[level] = atEnd[level - 1] && last;
                 around[level] = around[level - 1] + (parent == LET && kid == 1 ? 1 : 0);
             }
-            if (kinds[level] == LET) {
-                slotOf[values[level]] = around[level];
+            if (walk.kinds[level] == LET) {
+                slotOf[walk.values[level]] = around[level];
             }
         }
 
-        @Override
-        void behindKid(int level, int kid) {
-            int kind = kinds[level];
+        private void behindKid(int level, int kid) {
+            int kind = walk.kinds[level];
             if (kind == SEQUENCE && kid == 0) {
                 emit(DO_DROP, 0);
                 rise(-1);
             } else if (kind == LET && kid == 0) {
-                emit(DO_STORE, useSlot(values[level]));
+                emit(DO_STORE, useSlot(walk.values[level]));
                 rise(-1);
             } else if (kind == IF && kid == 0) {
                 hole[level] = emit(DO_ELSE, 0);
@@ -1397,9 +1425,8 @@ public final class TailTrimmer {
             }
         }
 
-        @Override
-        void leave(int level) {
-            int kind = kinds[level];
+        private void leave(int level) {
+            int kind = walk.kinds[level];
             switch (kind) {
                 case SEQUENCE:
                 case LET:
@@ -1410,14 +1437,14 @@ public final class TailTrimmer {
                     }
                     return;
                 case CALL:
-                    encodeCall(values[level], atEnd[level]);
+                    encodeCall(walk.values[level], atEnd[level]);
                     return;
                 case NUMBER:
-                    emit(DO_CONST, values[level]);
+                    emit(DO_CONST, walk.values[level]);
                     rise(1);
                     break;
                 case VARIABLE:
-                    emit(DO_LOAD, useSlot(values[level]));
+                    emit(DO_LOAD, useSlot(walk.values[level]));
                     rise(1);
                     break;
                 default:
@@ -1544,11 +1571,13 @@ public final class TailTrimmer {
     }
 
     /** Writes expressions into bytes; what was written before stays if the new one is too long. */
-    private static final class Writer extends Walk {
+    private static final class Writer {
         private static final String OPERATORS = "+-*/%<";
+        private final Walk walk = new Walk();
         private byte[] written = new byte[MOST_WRITTEN];
         private byte[] draft = new byte[MOST_WRITTEN];
         private final char[] digits = new char[Tokens.NUMBER_DIGITS];
+        private Program program = null;
         private int draftLength = 0;
         private boolean tooLong = false;
         int length = 0;
@@ -1557,7 +1586,17 @@ public final class TailTrimmer {
         boolean writeOut(Program p, int f) {
             draftLength = 0;
             tooLong = false;
-            walk(p, f);
+            program = p;
+            walk.begin(p, f);
+            for (int n = 0; n < Walk.MOST_EVENTS && walk.advance(); n++) {
+                if (walk.event == Walk.ENTER) {
+                    enter(walk.level);
+                } else if (walk.event == Walk.BEHIND_KID) {
+                    behindKid(walk.level, walk.kid);
+                } else {
+                    leave(walk.level);
+                }
+            }
             if (tooLong) {
                 return false;
             }
@@ -1572,10 +1611,9 @@ public final class TailTrimmer {
             return i >= 0 && i < length ? written[i] : NONE;
         }
 
-        @Override
-        void enter(int level) {
-            int value = values[level];
-            switch (kinds[level]) {
+        private void enter(int level) {
+            int value = walk.values[level];
+            switch (walk.kinds[level]) {
                 case NUMBER:
                     addNumber(value);
                     break;
@@ -1605,10 +1643,9 @@ public final class TailTrimmer {
             }
         }
 
-        @Override
-        void behindKid(int level, int kid) {
-            int kind = kinds[level];
-            if (kid + 1 >= program.kids(kind, values[level])) {
+        private void behindKid(int level, int kid) {
+            int kind = walk.kinds[level];
+            if (kid + 1 >= program.kids(kind, walk.values[level])) {
                 return;
             }
             switch (kind) {
@@ -1632,9 +1669,8 @@ public final class TailTrimmer {
             }
         }
 
-        @Override
-        void leave(int level) {
-            if (kinds[level] != NUMBER && kinds[level] != VARIABLE) {
+        private void leave(int level) {
+            if (walk.kinds[level] != NUMBER && walk.kinds[level] != VARIABLE) {
                 addText(")");
             }
         }
