@@ -78,6 +78,9 @@ public final class CodeTest {
         CHECK.due("instructions", x.function(1, 0, 5), 19);
         x.trim(3);
         CHECK.due("and without again", Check.code(x, 1, 0), head + "16 0 17 0");
+        TailTrimmer second = Check.reading("def f()=1.def g(a)=g(a).");
+        second.trim(4);
+        CHECK.due("AGAIN has no number", Check.code(second, 1, 1), "2 0 18 0");
         TailTrimmer y = Check.reading("def f(a)=if a then 5 else g(-3+1).def g(x)=f(x).");
         y.trim(7);
         CHECK.due("all three", Check.code(y, 1, 0), "2 0 14 4 1 5 17 0 1 -2 19 1");

@@ -185,6 +185,10 @@ public final class TrimTest {
         CHECK.due("VARIABLES that came and went", x.function(1, 0, 2), 3);
         CHECK.due("SIZE of what is left", x.function(1, 0, 0), 1);
         CHECK.due("the source keeps its SIZE", x.function(0, 0, 0), 7);
+        TailTrimmer y = Check.reading("def f(a)=let b=2 in b*a.def g(a,b)=b*a.");
+        y.trim(2);
+        CHECK.due("what is known of v1 in f", Check.written(y, 1, 0), "(2*v0)");
+        CHECK.due("is not known in g", Check.written(y, 1, 1), "(v1*v0)");
     }
 
     private static void modes() {
