@@ -414,11 +414,13 @@ public final class TailTrimmer {
         private int at = 0;
         private boolean held = false;
         private int kind = END;
-        private int place = 0;
-        private int number = 0;
-        private long name = 0L;
-        private int fault = 0;
-        private int faultPlace = NONE;
+        /** Of the latest token: where it begins, and what it says if it is a number or a name. */
+        int place = 0;
+        int number = 0;
+        long name = 0L;
+        /** The first fault, 0 if there is none. */
+        int fault = 0;
+        int faultPlace = NONE;
 
         void begin(byte[] bytes, int byteCount) {
             text = bytes;
