@@ -76,7 +76,13 @@ public final class ModelTest {
             "if ", "then ", "else ", "put", "def ", "2147483648", "00000000001", "2147483647", "abcdefghi", "q()", " ", "\u00e9",
             "f0(", "f1(", "\n", "f1 ", ".def f0()=1.", "p0,", ",p1"};
         String bit = bits[random.nextInt(bits.length)];
-        switch (random.nextInt(4)) {
+        int f = random.nextInt(6);
+        switch (random.nextInt(9)) {
+            case 4: return text + "def f" + f + "(p0)=p0.";
+            case 5: return text.replaceFirst("\\((?=p\\d[,)])", "(p1,");
+            case 6: return text.replaceFirst("f" + f + "\\s*\\((?=[^)])", "f" + f + "(7,");
+            case 7: return text.substring(0, at) + text.substring(at).replaceFirst("f\\d+(\\s*)\\(", "q$1(");
+            case 8: return text.replaceFirst("def f" + f + "\\(", "def g" + f + "(");
             case 0: return text.substring(0, at) + bit + text.substring(at);
             case 1: return text.substring(0, at) + text.substring(at + 1);
             case 2: return text.substring(0, at) + bit + text.substring(at + 1);
