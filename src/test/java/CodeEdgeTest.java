@@ -8,24 +8,12 @@ public final class CodeEdgeTest {
     }
 
     static Edges look(Edges e) {
-        slotNumbers(e);
-        plainCode(e);
-        ifsAndCalls(e);
-        endCode(e);
-        tailCode(e);
-        placesFromZero(e);
-        temps(e);
-        slots(e);
-        frames(e);
-        boundsOfCalls(e);
-        boundsThatAreNone(e);
-        boundsOfCircles(e);
-        boundsAndRuns(e);
-        answerOfNone(e);
-        instructions(e);
-        kindsAndNumbers(e);
-        refused(e);
-        return e;
+        return e.all(
+            CodeEdgeTest::slotNumbers, CodeEdgeTest::plainCode, CodeEdgeTest::ifsAndCalls, CodeEdgeTest::endCode,
+            CodeEdgeTest::tailCode, CodeEdgeTest::placesFromZero, CodeEdgeTest::temps, CodeEdgeTest::slots,
+            CodeEdgeTest::frames, CodeEdgeTest::boundsOfCalls, CodeEdgeTest::boundsThatAreNone, CodeEdgeTest::boundsOfCircles,
+            CodeEdgeTest::boundsAndRuns, CodeEdgeTest::answerOfNone, CodeEdgeTest::instructions, CodeEdgeTest::kindsAndNumbers,
+            CodeEdgeTest::refused);
     }
 
     private static String code(String exp) {
@@ -56,6 +44,11 @@ public final class CodeEdgeTest {
         e.beyond("v1 and v2 have one SLOT", Check.code(x, 1, 1), "1 1 13 1 2 1 1 2 13 1 2 1 3 0 17 0");
         x.trim(2);
         e.beyond("what has gone is not around", Check.code(x, 1, 2), "2 0 13 1 2 1 17 0");
+        // In f v0 lies within what v1 is told in; in g v0 is a parameter.
+        TailTrimmer y = Check.reading("def s(p)=p.def t(p,q)=q.def f()=t(1,s(2)).def g(a)=a.");
+        y.trim(1);
+        e.beyond("a SLOT above that of its variable", Check.code(y, 1, 2), "1 1 13 0 1 2 13 1 2 1 13 1 2 1 17 0");
+        e.within("and a parameter behind it", Check.code(y, 1, 3), "2 0 17 0");
     }
 
     private static void plainCode(Edges e) {
@@ -227,6 +220,11 @@ public final class CodeEdgeTest {
         TailTrimmer both = tails("def f(a)=g(g(a)).def g(a)=a.");
         e.beyond("CALL and TAIL of one", bounds(both, 1, 2), "8 4");
         e.within("24 FRAMES of 3 words", Check.reading(chain("1")).function(0, 0, 6), 72);
+        TailTrimmer other = tails("def f()=g().def g()=1+(2+(3+4)).");
+        e.within("a TAIL of a larger one", bounds(other, 1, 2), "6 6");
+        Check.lay(other, "def f()=1.def g()=1+(2+(3+4)).");
+        other.read();
+        e.beyond("of another text without it", bounds(other, 0, 2) + " " + bounds(other, 1, 2), "3 6 3 6");
         TailTrimmer run = Check.reading(chain("1"));
         e.within("a run within the BOUND", run.run(0, 0, 72, 999), 1);
         e.within("needs all of it", run.told(2), 72);
@@ -308,6 +306,27 @@ public final class CodeEdgeTest {
         e.beyond("a JUMP more for each if, and RETURN", x.function(0, 0, 5), 79 * 6 + 2);
         e.beyond("RETURN is the last", x.code(0, 0, 79 * 6 + 1, 0), 17);
         e.beyond("none behind it", x.code(0, 0, 79 * 6 + 2, 0), -1);
+        mostInstructions(e);
+    }
+
+    /** A function of 76 nodes, 15 of them ifs, and 23 others that take it in six times: 475 nodes, 90 of them ifs. */
+    private static void mostInstructions(Edges e) {
+        StringBuilder text = new StringBuilder("def b(a)=").append("(if a then 1 else 2)+".repeat(15)).append("1.");
+        for (int f = 1; f < MOST; f++) {
+            text.append("def f").append(f).append("(a)=").append("b(a)+".repeat(6)).append(f).append('.');
+        }
+        TailTrimmer x = Check.reading(text.toString());
+        x.budget(500);
+        e.within("instructions of b", x.function(0, 0, 5), 76 + 15 + 1);
+        e.within("instructions of another one", x.function(0, 1, 5), 19 + 1);
+        e.beyond("calls REPLACED", x.trim(1), 6 * (MOST - 1));
+        x.argument(0, 1);
+        for (int f = 1; f < MOST; f++) {
+            e.beyond("SIZE of an output", x.function(1, f, 0), 19 + 6 * 76);
+            e.beyond("instructions", x.function(1, f, 5), 19 + 6 * 76 + 6 * 15 + 1);
+            e.beyond("run of " + f, x.run(1, f, 999, 999), 1);
+            e.beyond("value of " + f, x.told(0), 6 * 16 + f);
+        }
     }
 
     private static void kindsAndNumbers(Edges e) {

@@ -4,6 +4,7 @@ import java.nio.file.Files;
 import java.nio.file.Path;
 import java.util.LinkedHashMap;
 import java.util.Map;
+import java.util.function.Consumer;
 
 /**
  * Sentences of the document that name a boundary, each with answers on both sides of it. A test begins a
@@ -23,6 +24,19 @@ final class Edges {
     private int shown = 0;
     private int looksWithin = 0;
     private int looksBeyond = 0;
+
+    /** Tests of sentences, one behind another; what one of them throws fails its sentence and does not end the rest. */
+    @SafeVarargs
+    final Edges all(Consumer<Edges>... tests) {
+        for (Consumer<Edges> test : tests) {
+            try {
+                test.accept(this);
+            } catch (RuntimeException thrown) {
+                fail("threw " + shortened(thrown.toString()));
+            }
+        }
+        return this;
+    }
 
     void sentence(int promise, String words) {
         close();
@@ -70,6 +84,11 @@ final class Edges {
         String text = "<" + before + "|" + there + ">";
         beyond("read() of " + text, x.read(), -10 - fault);
         beyond("place() of " + text, x.place(), before.length());
+    }
+
+    /** The sentence that is being looked at, "" if none is. */
+    String open() {
+        return current;
     }
 
     /** By sentence: how many answers were wrong. */

@@ -7,23 +7,13 @@ public final class ExpressionEdgeTest {
     }
 
     static Edges look(Edges e) {
-        sizes(e);
-        parameters(e);
-        variables(e);
-        variablesOfTheOutput(e);
-        callsLeft(e);
-        callsReplaced(e);
-        sourceAndOutput(e);
-        refusedFunctions(e);
-        blanksWritten(e);
-        numbersWritten(e);
-        variablesWritten(e);
-        operationsWritten(e);
-        callsWritten(e);
-        howManyBytes(e);
-        tooManyBytes(e);
-        bytesWritten(e);
-        return e;
+        return e.all(
+            ExpressionEdgeTest::sizes, ExpressionEdgeTest::parameters, ExpressionEdgeTest::variables,
+            ExpressionEdgeTest::variablesOfTheOutput, ExpressionEdgeTest::callsLeft, ExpressionEdgeTest::callsReplaced,
+            ExpressionEdgeTest::sourceAndOutput, ExpressionEdgeTest::refusedFunctions, ExpressionEdgeTest::blanksWritten,
+            ExpressionEdgeTest::numbersWritten, ExpressionEdgeTest::variablesWritten, ExpressionEdgeTest::operationsWritten,
+            ExpressionEdgeTest::callsWritten, ExpressionEdgeTest::howManyBytes, ExpressionEdgeTest::tooManyBytes,
+            ExpressionEdgeTest::bytesWritten);
     }
 
     private static void size(Edges e, String exp, int want) {
@@ -86,8 +76,7 @@ public final class ExpressionEdgeTest {
         for (int i = from; i < to; i++) {
             all.append((char) x.octet(i));
         }
-        String found = all.toString();
-        return found.substring(found.indexOf('('));
+        return all.substring(Math.max(0, all.indexOf("(")));
     }
 
     private static void variablesOfTheOutput(Edges e) {
@@ -111,6 +100,7 @@ public final class ExpressionEdgeTest {
         e.within("none", Check.reading("def f()=1.").function(0, 0, 3), 0);
         e.within("of itself", Check.reading("def f()=f().").function(0, 0, 3), 1);
         e.within("in one another", Check.reading("def f(a)=f(f(f(a)))+f(1).").function(0, 0, 3), 4);
+        e.within("none before one that is a call", Check.reading("def f()=1.def g()=f().").function(0, 0, 3), 0);
         TailTrimmer x = Check.reading("def s()=1.def f()=s()+f()+s().");
         e.within("of what was read", x.function(0, 1, 3), 3);
         x.trim(1);

@@ -8,25 +8,12 @@ public final class FaultEdgeTest {
     }
 
     static Edges look(Edges e) {
-        firstMet(e);
-        noToken(e);
-        cannotStand(e);
-        namedTwice(e);
-        noVariable(e);
-        tooManyFunctions(e);
-        tooManyParameters(e);
-        tooManyNodes(e);
-        tooManyLets(e);
-        tooManyOpen(e);
-        howLongOpen(e);
-        callsAtTheEnd(e);
-        noFunction(e);
-        otherParameters(e);
-        numbered(e);
-        readAnew(e);
-        faultNumbers(e);
-        places(e);
-        return e;
+        return e.all(
+            FaultEdgeTest::firstMet, FaultEdgeTest::noToken, FaultEdgeTest::cannotStand, FaultEdgeTest::namedTwice,
+            FaultEdgeTest::noVariable, FaultEdgeTest::tooManyFunctions, FaultEdgeTest::tooManyParameters,
+            FaultEdgeTest::tooManyNodes, FaultEdgeTest::tooManyLets, FaultEdgeTest::tooManyOpen, FaultEdgeTest::howLongOpen,
+            FaultEdgeTest::callsAtTheEnd, FaultEdgeTest::noFunction, FaultEdgeTest::otherParameters, FaultEdgeTest::numbered,
+            FaultEdgeTest::readAnew, FaultEdgeTest::faultNumbers, FaultEdgeTest::places);
     }
 
     private static void firstMet(Edges e) {
@@ -229,6 +216,14 @@ public final class FaultEdgeTest {
         e.faulty(2, "def f(x)=" + "(".repeat(30) + "put ", "1");
         e.faulty(2, "def f(x)=" + "(".repeat(30) + "1", "(1)");
         e.reads(2, "def f(x)=" + "(".repeat(30) + "x" + ")".repeat(30) + ".def g(x)=" + "-".repeat(30) + "x.");
+        // What a fault has left open is not open in the next text.
+        for (String left : new String[] {"(", "-(", "f(", "let y=", "let y=x in (", "if ", "if x then ", "if x then 1 else ("}) {
+            TailTrimmer x = new TailTrimmer();
+            Check.lay(x, "def f(x)=" + left.repeat(15) + "1 1");
+            e.beyond("read() of what <" + left + "> leaves open", x.read(), -12);
+            Check.lay(x, "def f(x)=" + "(".repeat(30) + "x" + ")".repeat(30) + ".");
+            e.within("read() of 30 behind it", x.read(), 1);
+        }
     }
 
     private static void howLongOpen(Edges e) {
@@ -271,6 +266,15 @@ public final class FaultEdgeTest {
         e.faulty(3, "def f()=g().def ", "f()=1.");
         e.faulty(4, "def f()=g().def h()=", "x.");
         e.faulty(5, "def f()=g()+" + "(".repeat(30), "(1.");
+        // As many calls as a text can have: three bytes for each of them.
+        String nest = "f(".repeat(30) + "x" + ")".repeat(30);
+        String calls = (nest + ";").repeat(11) + nest;
+        String text = "def f(x)=" + calls + ".def g(x)=" + calls + ".def h(x)=";
+        String rest = (nest + ";").repeat(7);
+        e.reads(3, text + rest + "f(x).");
+        e.within("bytes of it", (text + rest + "f(x).").length() > 2850 ? 1 : 0, 1);
+        e.faulty(6, text + rest, "k(x).");
+        e.faulty(7, text + rest, "f().");
     }
 
     private static void noFunction(Edges e) {
@@ -341,6 +345,22 @@ public final class FaultEdgeTest {
         e.within("read() of no text", x.read(), 0);
         e.beyond("no function", x.function(0, 0, 0), -1);
         e.beyond("no function in the output", x.function(1, 0, 0), -1);
+        TailTrimmer again = new TailTrimmer();
+        Check.lay(again, functionsOfMostNodes(6));
+        for (int i = 0; i < 20; i++) {
+            e.within("read() of a long text, over and over", again.read(), 6);
+        }
+        e.within("SIZE of the last function", again.function(0, 5, 0), 400);
+        e.within("run() of the last function", again.run(0, 5, 99, 999), 1);
+        e.beyond("no function behind it", again.function(0, 6, 0), -1);
+    }
+
+    private static String functionsOfMostNodes(int count) {
+        StringBuilder text = new StringBuilder();
+        for (int i = 0; i < count; i++) {
+            text.append("def f").append((char) ('a' + i)).append("(a)=").append("a+".repeat(199)).append("-a.");
+        }
+        return text.toString();
     }
 
     private static void faultNumbers(Edges e) {
@@ -374,6 +394,9 @@ public final class FaultEdgeTest {
         x.feed('.', 1);
         x.read();
         e.beyond("place() of a fault again", x.place(), 10);
+        Check.lay(x, "def $");
+        x.read();
+        e.beyond("place() of the latest, which is smaller", x.place(), 4);
         x.feed(0, 0);
         x.read();
         e.within("place() of an empty text", x.place(), -1);

@@ -5,16 +5,10 @@ public final class GrammarEdgeTest {
     }
 
     static Edges look(Edges e) {
-        definitions(e);
-        letsAndIfs(e);
-        reach(e);
-        sequences(e);
-        comparisons(e);
-        sums(e);
-        products(e);
-        unaries(e);
-        parts(e);
-        return e;
+        return e.all(
+            GrammarEdgeTest::definitions, GrammarEdgeTest::letsAndIfs, GrammarEdgeTest::reach, GrammarEdgeTest::sequences,
+            GrammarEdgeTest::comparisons, GrammarEdgeTest::sums, GrammarEdgeTest::products, GrammarEdgeTest::unaries,
+            GrammarEdgeTest::parts);
     }
 
     private static void written(Edges e, String exp, String want) {

@@ -7,15 +7,9 @@ public final class GraphEdgeTest {
     }
 
     static Edges look(Edges e) {
-        direct(e);
-        circles(e);
-        inCircles(e);
-        answers(e);
-        refusedCalls(e);
-        looks(e);
-        looksFromTheLeft(e);
-        refusedOrders(e);
-        return e;
+        return e.all(
+            GraphEdgeTest::direct, GraphEdgeTest::circles, GraphEdgeTest::inCircles, GraphEdgeTest::answers,
+            GraphEdgeTest::refusedCalls, GraphEdgeTest::looks, GraphEdgeTest::looksFromTheLeft, GraphEdgeTest::refusedOrders);
     }
 
     private static void direct(Edges e) {
@@ -37,6 +31,10 @@ public final class GraphEdgeTest {
         TailTrimmer trimmed = Check.reading("def a()=1.def b()=a().");
         trimmed.trim(7);
         e.within("as they were read", trimmed.calls(1, 0, 0), 1);
+        Check.lay(trimmed, "def a()=b().def b()=1.");
+        trimmed.read();
+        e.within("of another text", trimmed.calls(0, 1, 0), 1);
+        e.beyond("no more", trimmed.calls(1, 0, 0), 0);
     }
 
     private static void circles(Edges e) {
@@ -80,10 +78,10 @@ public final class GraphEdgeTest {
 
     private static void answers(Edges e) {
         e.sentence(8, "what = 0 whether f CALLS g, 1 whether both are of one CIRCLE (1, 0; of f and f whether it is IN one).");
-        TailTrimmer x = Check.reading("def a()=b().def b()=c().def c()=a().def d()=d();a().");
-        int[][] calls = {{0, 1, 0, 0}, {0, 0, 1, 0}, {1, 0, 0, 0}, {1, 0, 0, 1}};
-        for (int f = 0; f < 4; f++) {
-            for (int g = 0; g < 4; g++) {
+        TailTrimmer x = Check.reading("def a()=b().def b()=c().def c()=a().def d()=d();a().def g()=d().");
+        int[][] calls = {{0, 1, 0, 0, 0}, {0, 0, 1, 0, 0}, {1, 0, 0, 0, 0}, {1, 0, 0, 1, 0}, {0, 0, 0, 1, 0}};
+        for (int f = 0; f < 5; f++) {
+            for (int g = 0; g < 5; g++) {
                 e.within(f + " CALLS " + g, x.calls(f, g, 0), calls[f][g]);
                 boolean one = f < 3 && g < 3 || f == 3 && g == 3;
                 e.beyond(f + " and " + g + " are of one CIRCLE", x.calls(f, g, 1), one ? 1 : 0);
@@ -134,6 +132,11 @@ public final class GraphEdgeTest {
         }
         e.within("a chain of 24", order(functions(false), MOST), down.toString());
         e.beyond("a ring of 24", order(functions(true), MOST), down.toString());
+        e.beyond("30 calls of one and then another one", order("def a()=" + "b();".repeat(30) + "c().def c()=1.def b()=1.", 3), "2 1 0");
+        TailTrimmer x = Check.reading("def a()=b().def b()=1.def c()=1.");
+        Check.lay(x, "def a()=c().def b()=1.def c()=1.");
+        x.read();
+        e.within("the ORDER of another text", x.order(0) + " " + x.order(1) + " " + x.order(2), "2 0 1");
     }
 
     private static void looksFromTheLeft(Edges e) {

@@ -11,27 +11,13 @@ public final class OutputEdgeTest {
     }
 
     static Edges look(Edges e) {
-        budgets(e);
-        modes(e);
-        modesInOrder(e);
-        callsInOrder(e);
-        notAgain(e);
-        inNoCircle(e);
-        sizeWithinBudget(e);
-        sizeWithin500(e);
-        variablesWithin120(e);
-        letsOfParameters(e);
-        numbersOfVariables(e);
-        foldedParts(e);
-        foldedOperations(e);
-        foldedWraps(e);
-        foldedIfs(e);
-        droppedFirsts(e);
-        foldedLets(e);
-        droppedLets(e);
-        calm(e);
-        ends(e);
-        return e;
+        return e.all(
+            OutputEdgeTest::budgets, OutputEdgeTest::modes, OutputEdgeTest::modesInOrder, OutputEdgeTest::callsInOrder,
+            OutputEdgeTest::notAgain, OutputEdgeTest::inNoCircle, OutputEdgeTest::sizeWithinBudget,
+            OutputEdgeTest::sizeWithin500, OutputEdgeTest::variablesWithin120, OutputEdgeTest::letsOfParameters,
+            OutputEdgeTest::numbersOfVariables, OutputEdgeTest::foldedParts, OutputEdgeTest::foldedOperations,
+            OutputEdgeTest::foldedWraps, OutputEdgeTest::foldedIfs, OutputEdgeTest::droppedFirsts, OutputEdgeTest::foldedLets,
+            OutputEdgeTest::droppedLets, OutputEdgeTest::calm, OutputEdgeTest::ends);
     }
 
     private static void budgets(Edges e) {
@@ -68,6 +54,14 @@ public final class OutputEdgeTest {
         }
         x.trim(0);
         e.within("made anew from what was read", Check.written(x, 1, 2), "((f()+s());g(v0))");
+        TailTrimmer y = Check.reading(HUNDRED + "def g(x)=f()+f()+f()+f();if x then g(x-1) else x.");
+        y.budget(500);
+        for (int i = 0; i < 200; i++) {
+            e.within("trim(5), over and over", y.trim(INLINE + TAILS), 4);
+        }
+        e.within("SIZE of its output", y.function(1, 1, 0), 4 * 101 + 3 + 1 + 7);
+        e.within("the last instruction of its output", y.code(1, 1, y.function(1, 1, 5) - 1, 0), 17);
+        e.within("a run of its output", y.run(1, 1, 99, 999), 1);
         e.within("trim(7) of no functions", new TailTrimmer().trim(7), 0);
         e.beyond("trim(8) of no functions", new TailTrimmer().trim(8), -2);
     }
@@ -273,6 +267,16 @@ public final class OutputEdgeTest {
             e.within("each expression", Check.written(x, 1, f), Integer.toString(2 * (f + 1)));
         }
         e.beyond("what a let had in another one is forgotten", Check.written(x, 1, 3), "v0");
+        StringBuilder text = new StringBuilder();
+        for (int f = 0; f < 24; f++) {
+            text.append("def f").append(f).append("(a)=let b=a*").append(f).append(" in if 1 then (a;").append(f).append("+1) else b.");
+        }
+        TailTrimmer most = Check.reading(text.toString());
+        most.trim(FOLD);
+        for (int f = 0; f < 24; f++) {
+            e.within("each of 24", Check.written(most, 1, f), Integer.toString(f + 1));
+            e.beyond("its SIZE as it was read", most.function(0, f, 0), 12);
+        }
     }
 
     private static void foldedOperations(Edges e) {
@@ -345,6 +349,8 @@ public final class OutputEdgeTest {
         stays(e, "if a then 1+1 else 2+2", "(if v0 then 2 else 4)");
         stays(e, "if put(0) then a else b", "(if put(0) then v0 else v1)");
         stays(e, "if 1/0 then a else b", "(if (1/0) then v0 else v1)");
+        stays(e, "(if 1 then a else b)+(if a then 1 else b)", "(v0+(if v0 then 1 else v1))");
+        stays(e, "(if 0 then a else b)+(if b then 1 else put(2))", "(v1+(if v1 then 1 else put(2)))");
         TailTrimmer x = Check.reading("def f()=if 1 then 2 else (let x=3 in f();x).");
         x.trim(FOLD);
         e.within("no call is left", x.function(1, 0, 3), 0);
@@ -391,6 +397,7 @@ public final class OutputEdgeTest {
         folded(e, "let x=a in let y=x in b", "v1");
         folded(e, "let x=a in let x=b in x", "(let v3=v1 in v3)");
         folded(e, "let x=a in put(b)", "put(v1)");
+        folded(e, "(let x=1 in x)+(let y=a in 2)", "3");
         stays(e, "let x=a in x", "(let v2=v0 in v2)");
         stays(e, "let x=a in 5*x", "(let v2=v0 in (5*v2))");
         stays(e, "let x=a in if b then 1 else x", "(let v2=v0 in (if v1 then 1 else v2))");

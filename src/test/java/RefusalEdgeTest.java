@@ -16,22 +16,11 @@ public final class RefusalEdgeTest {
     }
 
     static Edges look(Edges e) {
-        faults(e);
-        feeds(e);
-        reads(e);
-        budgets(e);
-        trims(e);
-        functions(e);
-        graphs(e);
-        orders(e);
-        writes(e);
-        octets(e);
-        codes(e);
-        arguments(e);
-        runs(e);
-        tolds(e);
-        firstThatFits(e);
-        return e;
+        return e.all(
+            RefusalEdgeTest::faults, RefusalEdgeTest::feeds, RefusalEdgeTest::reads, RefusalEdgeTest::budgets,
+            RefusalEdgeTest::trims, RefusalEdgeTest::functions, RefusalEdgeTest::graphs, RefusalEdgeTest::orders,
+            RefusalEdgeTest::writes, RefusalEdgeTest::octets, RefusalEdgeTest::codes, RefusalEdgeTest::arguments,
+            RefusalEdgeTest::runs, RefusalEdgeTest::tolds, RefusalEdgeTest::firstThatFits);
     }
 
     /** An object with something of everything: functions, an output, a budget, arguments, a run, bytes written. */

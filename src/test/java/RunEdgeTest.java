@@ -10,32 +10,13 @@ public final class RunEdgeTest {
     }
 
     static Edges look(Edges e) {
-        arguments(e);
-        wrap(e);
-        leastByMinusOne(e);
-        comparisonsAndRests(e);
-        ifs(e);
-        sequences(e);
-        puts(e);
-        fromTheLeft(e);
-        lets(e);
-        parameters(e);
-        givenArguments(e);
-        firstFrame(e);
-        steps(e);
-        framesComeAndGo(e);
-        done(e);
-        overflows(e);
-        divided(e);
-        spent(e);
-        putTooMuch(e);
-        refusedRuns(e);
-        latestRun(e);
-        values(e);
-        stepsWordsPuts(e);
-        refusedTold(e);
-        putValues(e);
-        return e;
+        return e.all(
+            RunEdgeTest::arguments, RunEdgeTest::wrap, RunEdgeTest::leastByMinusOne, RunEdgeTest::comparisonsAndRests,
+            RunEdgeTest::ifs, RunEdgeTest::sequences, RunEdgeTest::puts, RunEdgeTest::fromTheLeft, RunEdgeTest::lets,
+            RunEdgeTest::parameters, RunEdgeTest::givenArguments, RunEdgeTest::firstFrame, RunEdgeTest::steps,
+            RunEdgeTest::framesComeAndGo, RunEdgeTest::done, RunEdgeTest::overflows, RunEdgeTest::divided, RunEdgeTest::spent,
+            RunEdgeTest::putTooMuch, RunEdgeTest::refusedRuns, RunEdgeTest::latestRun, RunEdgeTest::values,
+            RunEdgeTest::stepsWordsPuts, RunEdgeTest::refusedTold, RunEdgeTest::putValues);
     }
 
     private static void arguments(Edges e) {
@@ -145,6 +126,8 @@ public final class RunEdgeTest {
     private static void sequences(Edges e) {
         e.sentence(14, "a ; b is b, when a was found;");
         within(e, "a;b", 5, 6, 6);
+        within(e, "10*(put(a);b)+b", 5, 6, 66);
+        within(e, "10-(put(a);put(b);2)", 5, 6, 8);
         TailTrimmer x = Check.reading("def f(a)=put(7);put(8);9.def g(a)=1/a;9.");
         e.within("run", x.run(0, 0, 99, 99), 1);
         e.within("value", x.told(0), 9);
@@ -345,6 +328,15 @@ public final class RunEdgeTest {
         told(e, false, "of 20000 words", x, "0 6666 20000 0");
         e.beyond("19999 words", x.run(0, 1, MOST_OF_ALL - 1, MOST_OF_ALL), 2);
         told(e, false, "of 19999 words", x, "0 6665 19997 0");
+        // 1250 FRAMES of 16 words; the last one uses all its TEMPS.
+        TailTrimmer deep = Check.reading("def f(n,a,b,c,d,g)=if n then f(n-1,a,b,c,d,g) else a+(b+(c+(d+(g+(n+(a+b)))))).");
+        for (int i = 0; i < 6; i++) {
+            deep.argument(i, i == 0 ? 1249 : i);
+        }
+        e.within("20000 words are what it needs", deep.run(0, 0, MOST_OF_ALL, MOST_OF_ALL), 1);
+        told(e, true, "of it", deep, "18 15006 20000 0");
+        e.beyond("one less", deep.run(0, 0, MOST_OF_ALL - 1, MOST_OF_ALL), 2);
+        told(e, false, "of one less", deep, "0 13739 19984 0");
         x.trim(TAILS);
         e.within("room for the one in its place", x.run(1, 3, 6, 99), 1);
         told(e, true, "of a TAIL with just room", x, "2 8 6 0");
@@ -449,31 +441,31 @@ public final class RunEdgeTest {
 
     private static void latestRun(Edges e) {
         e.sentence(15, "Of the latest run() (0 before):");
-        TailTrimmer x = Check.reading("def f()=put(7).def g()=1.");
+        TailTrimmer x = Check.reading("def f()=put(7)+0.def g()=1.");
         told(e, true, "before", x, "0 0 0 0");
         x.run(0, 0, 99, 99);
-        told(e, false, "of the latest", x, "7 3 3 1");
+        told(e, false, "of the latest", x, "7 5 4 1");
         x.run(0, 1, 99, 99);
         told(e, false, "of a later one", x, "1 2 3 0");
         x.run(0, 0, 99, 99);
         x.run(0, 2, 99, 99);
         x.run(0, 0, 20001, 99);
-        told(e, false, "when others were refused", x, "7 3 3 1");
+        told(e, false, "when others were refused", x, "7 5 4 1");
         x.trim(7);
         x.feed(0, 0);
         x.read();
-        told(e, false, "when its function has gone", x, "7 3 3 1");
+        told(e, false, "when its function has gone", x, "7 5 4 1");
     }
 
     private static void values(Edges e) {
         e.sentence(15, "what = 0 its value (0 when it was not done),");
-        TailTrimmer x = Check.reading("def f(a)=a.def g(a)=7/a.def h(a)=put(5);h(a).");
+        TailTrimmer x = Check.reading("def f(a)=a.def g(a)=7/(a-a).def h(a)=put(5);h(a).");
         for (int v : new int[] {0, 1, -1, -2, LEAST, GREATEST}) {
             x.argument(0, v);
             x.run(0, 0, 99, 99);
             e.within("value " + v, x.told(0), v);
         }
-        x.argument(0, 0);
+        x.argument(0, 8);
         int[][] halts = {{0, 3, 99, 2}, {0, 99, 1, 4}, {1, 99, 99, 3}, {2, 99, 9999, 2}};
         for (int[] one : halts) {
             x.run(0, 0, 99, 99);
@@ -487,11 +479,13 @@ public final class RunEdgeTest {
 
     private static void stepsWordsPuts(Edges e) {
         e.sentence(15, "1 steps, 2 the most words that FRAMES had at a time, 3 how many were PUT.");
-        TailTrimmer x = Check.reading("def f(a)=g(a)+a.def g(p)=put(p)+(p+p).");
+        TailTrimmer x = Check.reading("def f(a)=g(a)+a.def g(p)=put(p)+(p+p).def h()=g(1)+k().def k()=1.");
         x.run(0, 0, 99, 99);
         told(e, true, "of a run", x, "0 12 11 1");
         x.run(0, 1, 99, 99);
         told(e, true, "of a run of one FRAME", x, "0 7 6 1");
+        x.run(0, 2, 99, 99);
+        told(e, true, "when a smaller FRAME comes behind a larger one", x, "4 14 10 1");
         x.run(0, 0, 11, 99);
         e.within("the most words are what it needs", x.told(2), 11);
         x.run(0, 0, 10, 99);

@@ -8,19 +8,10 @@ public final class TokenEdgeTest {
     }
 
     static Edges look(Edges e) {
-        newObject(e);
-        calls(e);
-        fedBytes(e);
-        emptied(e);
-        fedCounts(e);
-        textBytes(e);
-        blanks(e);
-        longest(e);
-        names(e);
-        words(e);
-        numbers(e);
-        signs(e);
-        return e;
+        return e.all(
+            TokenEdgeTest::newObject, TokenEdgeTest::calls, TokenEdgeTest::fedBytes, TokenEdgeTest::emptied,
+            TokenEdgeTest::fedCounts, TokenEdgeTest::textBytes, TokenEdgeTest::blanks, TokenEdgeTest::longest,
+            TokenEdgeTest::names, TokenEdgeTest::words, TokenEdgeTest::numbers, TokenEdgeTest::signs);
     }
 
     private static void newObject(Edges e) {
@@ -99,6 +90,10 @@ public final class TokenEdgeTest {
         e.within("feed of a v below 0", x.feed(Long.MIN_VALUE, 8), 8);
         e.within("read() of byte 128", x.read(), -11);
         e.within("place() of byte 128", x.place(), 0);
+        x = new TailTrimmer();
+        x.feed(0x20202020202020a0L, 8);
+        e.within("read() of byte 160, which is a blank without its highest bit", x.read(), -11);
+        e.within("place() of byte 160", x.place(), 7);
     }
 
     private static void emptied(Edges e) {
@@ -111,6 +106,15 @@ public final class TokenEdgeTest {
         x.feed(0x24, 1);
         e.beyond("feed(0, 1) does not empty", x.feed(0, 1), 2);
         e.beyond("read() of what was not emptied", x.read(), -11);
+        // What is behind the text's end is not of the text, even if it was of another one.
+        String[][] shorter = {{"def abc()=1.", "def a"}, {"def f()=123.", "def f()=1"}, {"def f()==", "def f()="}};
+        for (String[] two : shorter) {
+            x = new TailTrimmer();
+            Check.lay(x, two[0]);
+            Check.lay(x, two[1]);
+            e.within("read() of a shorter text", x.read(), -12);
+            e.within("place() at its end", x.place(), two[1].length());
+        }
         TailTrimmer full = filled(3000);
         e.within("feed(0, 0) of a full text", full.feed(0, 0), 0);
         e.within("feed behind it", full.feed(32, 8), 8);
@@ -155,6 +159,9 @@ public final class TokenEdgeTest {
         e.faulty(1, "", "$");
         e.faulty(1, " ".repeat(2999), "$");
         e.faulty(2, " ".repeat(2990) + "def f()=12", "");
+        e.faulty(2, " ".repeat(2990) + "def f()   ", "");
+        e.faulty(2, " ".repeat(2990) + "def    fgh", "");
+        e.faulty(2, " ".repeat(2990) + "def f()  =", "");
     }
 
     private static boolean beginsToken(int c) {
