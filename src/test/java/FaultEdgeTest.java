@@ -90,6 +90,8 @@ public final class FaultEdgeTest {
         e.reads(1, "def f(a)=a.");
         e.faulty(4, "def f(a)=", "b.");
         e.faulty(4, "def f()=", "f.");
+        e.faulty(4, "def f()=", "x");
+        e.faulty(2, "def f(x)=x", "");
         e.reads(1, "def f()=f().");
         e.reads(1, "def f()=f\n(\n).");
         e.reads(1, "def f()=let x=1 in x.");
